@@ -4,7 +4,8 @@ import java.util.TreeMap;
 
 /** Mixed runs of up to 512 calls, each answer compared with the Oracle's; the seeds are fixed. */
 public final class MixedRunsTest {
-    private static final int RUNS = 400;
+    private static final int RUNS = Integer.getInteger("runs", 600);
+    private static final int FIRST_SEED = Integer.getInteger("seed", 1);
     private static final int CALLS_MOST = 512;
 
     /** RULES that fall, RULES that go round, RULES that can't be told by weights, far sides, deep ones. */
@@ -43,7 +44,7 @@ public final class MixedRunsTest {
 
     public static void main(String[] args) {
         Due due = new Due();
-        for (int run = 1; run <= RUNS && !due.anyWrong(); run++) {
+        for (int run = FIRST_SEED; run < FIRST_SEED + RUNS && !due.anyWrong(); run++) {
             new MixedRunsTest(run, due).go();
         }
         if (args.length > 1) {
@@ -96,7 +97,8 @@ public final class MixedRunsTest {
             types(disturbed(rulesText()));
             check("reads()", made.reads(), oracle.reads());
         } else if (kind < 8) {
-            types(disturbed(termText(random.nextInt(7), "abxy")));
+            String blanks = random.nextInt(20) == 0 ? " ".repeat(100) : "";
+            types(disturbed(blanks + termText(random.nextInt(7), "abxy")));
             check("term()", made.term(), oracle.term());
         } else if (kind < 12) {
             dropOrGoBack();
@@ -170,15 +172,16 @@ public final class MixedRunsTest {
             return KNOWN[random.nextInt(KNOWN.length)];
         }
         StringBuilder text = new StringBuilder();
+        int deeper = random.nextInt(8) == 0 ? 2 : 0;
         for (int n = random.nextInt(4); n >= 0; n--) {
-            String left = termText(1 + random.nextInt(3), "abxy");
+            String left = termText(1 + random.nextInt(3) + deeper, "abxy");
             boolean bare = left.equals("x") || left.equals("y");
             left = bare && random.nextInt(20) != 0 ? "f(" + left + ")" : left;
             String leaves = "ab" + (left.contains("x") ? "xx" : "") + (left.contains("y") ? "yy" : "");
             if (random.nextInt(30) == 0) {
                 leaves += "xy";
             }
-            text.append(left).append('>').append(termText(random.nextInt(4), leaves)).append(';');
+            text.append(left).append('>').append(termText(random.nextInt(4) + deeper, leaves)).append(';');
         }
         return text.toString();
     }
