@@ -2,12 +2,18 @@
 final class Due {
     private int wrong;
     private int asked;
+    private String sentence = "";
+
+    /** The sentence of the document that the answers from here on are about. */
+    void about(String words) {
+        sentence = "[" + words + "] ";
+    }
 
     void answer(String call, long got, long want) {
         asked++;
         if (got != want) {
             wrong++;
-            System.out.println(call + " answered " + got + ", due is " + want);
+            System.out.println(sentence + call + " answered " + got + ", due is " + want);
         }
     }
 

@@ -1,10 +1,7 @@
 import java.math.BigInteger;
 
 /** Each promise of the document in order: ordinary inputs, the edges it names, wrong inputs. */
-public final class PromisesTest {
-    private static final int NONE = -1, BAD = -2, NO = -3, FULL = -4, FEWER = -5;
-    private static final Due DUE = new Due();
-
+public final class PromisesTest extends Hand {
     public static void main(String[] args) {
         promise1NewObject();
         promise2Type();
@@ -32,76 +29,6 @@ public final class PromisesTest {
         promise22Told();
         promise23Digest();
         DUE.end();
-    }
-
-    private static void due(String call, long got, long want) {
-        DUE.answer(call, got, want);
-    }
-
-    private static void types(FallingRules x, String text) {
-        x.clear();
-        for (int i = 0; i < text.length(); i++) {
-            x.type(text.charAt(i));
-        }
-    }
-
-    private static int reads(FallingRules x, String text) {
-        types(x, text);
-        return x.reads();
-    }
-
-    private static int reads(String text) {
-        return reads(new FallingRules(), text);
-    }
-
-    private static int term(FallingRules x, String text) {
-        types(x, text);
-        return x.term();
-    }
-
-    private static FallingRules with(String rules) {
-        FallingRules x = new FallingRules();
-        DUE.holds(rules + " is read", reads(x, rules) > 0);
-        return x;
-    }
-
-    private static FallingRules with(String rules, String term) {
-        FallingRules x = with(rules);
-        DUE.holds(term + " is read", term(x, term) > 0);
-        return x;
-    }
-
-    private static String letters(FallingRules x) {
-        StringBuilder all = new StringBuilder();
-        for (int k = 0; k < x.letter(NONE); k++) {
-            all.append((char) x.letter(k));
-        }
-        return all.toString();
-    }
-
-    private static void dueLetters(String when, FallingRules x, String want) {
-        String got = letters(x);
-        DUE.holds(when + ": letters are " + got + ", due is " + want, got.equals(want));
-    }
-
-    private static String shown(FallingRules x, int r) {
-        StringBuilder all = new StringBuilder();
-        for (int k = 0; k < x.shown(r, NONE); k++) {
-            all.append((char) x.shown(r, k));
-        }
-        return all.toString();
-    }
-
-    private static void dueShown(FallingRules x, String... rules) {
-        due("told(4)", x.told(4), rules.length);
-        for (int r = 0; r < rules.length; r++) {
-            DUE.holds("rule " + r + " is " + shown(x, r) + ", due is " + rules[r], shown(x, r).equals(rules[r]));
-        }
-    }
-
-    /** f ( f ( .. leaf .. )) with n letters f. */
-    private static String nested(int n, String leaf) {
-        return "f(".repeat(n) + leaf + ")".repeat(n);
     }
 
     private static void promise1NewObject() {
