@@ -45,6 +45,7 @@ public final class EdgesOfCallsTest extends Hand {
         rulesBesideTheRing();
         callsHeavier();
         callsOfThatRingAlone();
+        lighterOfManyCalls();
         lighterIsNone();
         DUE.end();
     }
@@ -337,6 +338,9 @@ public final class EdgesOfCallsTest extends Hand {
         due("without RINGS", with("f(a)>f(b);").calls(2), 1);
         // No WEIGHTS are asked for, though by none is LEFT HEAVIER.
         due("without RINGS, RULES that can't fall", with("f(x)>g(g(x,x),g(x,x));").calls(2), 1);
+        // L and M have to be 1 at least, and so K 4: no WEIGHTS make LEFTS as much as AS HEAVY.
+        FallingRules heavy = with("g(x,y)>x;g(x,y)>y;f(x)>g(g(x,x),g(x,x));");
+        dueCalls(heavy, 3, 0, 1);
     }
 
     private static void sureByEachRing() {
@@ -461,6 +465,20 @@ public final class EdgesOfCallsTest extends Hand {
         // A CALL in no RING may be as heavy, or heavier.
         dueLighter("f(f(x))>f(x);b>f(a);a>b;", NONE);
         dueLighter("f(f(x))>f(x);a>b;", 10100);
+    }
+
+    private static void lighterOfManyCalls() {
+        about("LIGHTER: .. LEFT of each CALL of a RING is HEAVIER than its part");
+        FallingRules x = new FallingRules();
+        types(x, nested(11, "x") + ">" + nested(10, "x") + ";");
+        for (int n = 1; n <= 5; n++) {
+            due("reads()", x.reads(), n);
+            dueCalls(x, 10 * n, 1, 1);
+            due(10 * n + " CALLS: lighter(0)", x.lighter(0), 10100);
+        }
+        x.drops(4);
+        due("reads()", reads(x, "f(f(x))>f(f(x));"), 5);
+        due("the last RULE's CALL is as heavy: lighter(0)", x.lighter(0), NONE);
     }
 
     private static void lighterIsNone() {

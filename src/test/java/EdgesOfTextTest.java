@@ -17,8 +17,10 @@ public final class EdgesOfTextTest extends Hand {
         textIsFull();
         badComesAheadOfFull();
         fullTextIsRead();
+        fullTextEndsTooEarly();
         clearTellsHowManyItHad();
         clearMakesRoom();
+        nothingOfTheOldOneIsRead();
         rulesComeBehindThoseThereAre();
         textStaysBehindReads();
         textStaysBehindTerm();
@@ -128,6 +130,18 @@ public final class EdgesOfTextTest extends Hand {
         dueFault("a FAULT at the 120th byte", reads("a>b;" + " ".repeat(115) + ";"), 119);
     }
 
+    private static void fullTextEndsTooEarly() {
+        about("the TEXT's length, if it ends too early (120 bytes at most)");
+        for (String begun : new String[] {"a", "f", "f(", "f(x", "g(x", "f(x)", "f(x)>", "f(x)>x", "f(x)>f(x"}) {
+            String full = begun + " ".repeat(TEXT_MOST - begun.length());
+            dueFault("reads() of " + begun + " and blanks", reads(full), TEXT_MOST);
+        }
+        for (String begun : new String[] {"f", "f(", "f(x", "g(x", "g(x,y"}) {
+            String full = " ".repeat(TEXT_MOST - begun.length()) + begun;
+            dueFault("term() of blanks and " + begun, term(full), TEXT_MOST);
+        }
+    }
+
     private static void clearTellsHowManyItHad() {
         about("Promise 3: THE TEXT is empty: how many it had.");
         FallingRules x = new FallingRules();
@@ -152,6 +166,22 @@ public final class EdgesOfTextTest extends Hand {
         due("type('b')", x.type('b'), 1);
         due("nothing of the old one is there: term()", x.term(), 1);
         dueLetters("nothing of the old one is there", x, "b");
+    }
+
+    private static void nothingOfTheOldOneIsRead() {
+        about("Promise 3: THE TEXT is empty");
+        FallingRules x = new FallingRules();
+        for (int n = 0; n < RULE.length(); n++) {
+            types(x, RULE);
+            x.clear();
+            for (int i = 0; i < n; i++) {
+                x.type(RULE.charAt(i));
+            }
+            dueFault("reads() of " + n + " bytes", x.reads(), n);
+            if (n % 8 == 7) {
+                x = new FallingRules();
+            }
+        }
     }
 
     private static void rulesComeBehindThoseThereAre() {

@@ -23,6 +23,7 @@ public final class EdgesOfWeightsTest extends Hand {
         fallIsByEachRule();
         fallIsNone();
         fallOfSidesThatWeighTheSame();
+        fallBehindOtherQuestions();
         weighsByFiguresOfEachPlace();
         weighsByNoWeights();
         weighsOfNoRule();
@@ -145,6 +146,23 @@ public final class EdgesOfWeightsTest extends Hand {
         dueFall("a>a;", NONE);
         dueFall("g(x,y)>g(x,y);", NONE);
         dueFall("g(x,y)>g(y,x);", NONE);
+    }
+
+    private static void fallBehindOtherQuestions() {
+        about("FALL: .. of each RULE (what was asked before, and RULES that went, count for nothing)");
+        FallingRules x = with("a>b;");
+        x.weighs(1111111, 0);
+        due("fall()", x.fall(), 1000111);
+        x.calls(2);
+        x.weighs(1111111, 0);
+        x.drops(0);
+        reads(x, "b>a;");
+        due("fall() of the other way round", x.fall(), 100111);
+        FallingRules y = with("a>f(a);");
+        y.weighs(1111111, 0);
+        y.lighter(0);
+        y.drops(0);
+        due("fall() without RULES", y.fall(), 111);
     }
 
     private static void weighsByFiguresOfEachPlace() {
