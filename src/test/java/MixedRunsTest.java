@@ -6,7 +6,10 @@ import java.util.TreeMap;
 public final class MixedRunsTest {
     private static final int RUNS = Integer.getInteger("runs", 600);
     private static final int FIRST_SEED = Integer.getInteger("seed", 1);
+    /** What an object answers behind these is free. */
     private static final int CALLS_MOST = 512;
+    /** A text cleared, typed and read. */
+    private static final int CALLS_OF_A_TEXT = 126;
 
     /** RULES that fall, RULES that go round, RULES that can't be told by weights, far sides, deep ones. */
     private static final String[] KNOWN = {
@@ -54,8 +57,8 @@ public final class MixedRunsTest {
     }
 
     private void go() {
-        while (calls < CALLS_MOST && !due.anyWrong()) {
-            step();
+        while (calls < CALLS_MOST - 1 && !due.anyWrong()) {
+            step(calls + CALLS_OF_A_TEXT < CALLS_MOST);
         }
         check("digest()", made.digest(), oracle.digest());
     }
@@ -91,8 +94,8 @@ public final class MixedRunsTest {
         return n;
     }
 
-    private void step() {
-        int kind = random.nextInt(100);
+    private void step(boolean roomForAText) {
+        int kind = roomForAText ? random.nextInt(100) : 8 + random.nextInt(92);
         if (kind < 4) {
             types(disturbed(rulesText()));
             check("reads()", made.reads(), oracle.reads());
